@@ -66,6 +66,7 @@ public final class ForecastTest {
 
     private static void changing(Checks checks) {
         GreenButtons navy = race();
+        checks.same("20: 1", navy.changes(1), 0);
         checks.same("20: 4", navy.changes(4), 0);
         checks.same("20: 5: c and a alike", navy.changes(5), 1);
         checks.same("20: 6: then a", navy.changes(6), 2);
@@ -108,7 +109,12 @@ public final class ForecastTest {
         checks.same("22: his own", navy.lemons(0, 1), 1);
         GreenButtons least = Checks.launched("man a plain green 10 hands 0;man b plain green 10 hands 0;man c plain green 12 hands 0;"
             + "lemon 3;greens (now < 10) * 9;");
-        checks.same("22: the least of equal ones", least.lemons(0, 1), 1);
+        checks.same("22: not the other one's", least.lemons(0, 1), 1);
+        GreenButtons equal = Checks.launched("man a plain green 10 hands 0;man b gold green 12 hands 0;lemon 3;greens (now < 10) * 9 + (now = 10);");
+        checks.same("22: his own or b's: the least of equal ones", equal.lemons(0, 1), 1);
+        GreenButtons fewest = Checks.launched("man a gold green 12 hands 0;man b gold green 12 hands 0;man c plain green 10 hands 0;lemon 3;"
+            + "greens (now < 10) * 9;");
+        checks.same("22: c's own, not a's and b's, which is less", fewest.lemons(2, 1), 4);
     }
 
     private static void harbours(Checks checks) {
@@ -134,6 +140,11 @@ public final class ForecastTest {
         GreenButtons navy = Checks.launched("man a plain green 10 hands 0;man b gold green 11 hands 0;man c cook green 3 hands 0;"
             + "post p spray 1 holds 1;sea 3;");
         checks.same("30: below", navy.chance(0, 1, 10), 0);
+        GreenButtons two = Checks.launched("man a plain green 10 hands 0;man b gold green 12 hands 0;post p spray 1 holds 1;sea 3;");
+        two.stand(0, 0);
+        checks.same("30: a sea of 2 makes them alike", two.chance(0, 1, 10), 0);
+        checks.same("30: twice", two.chance(0, 2, 10), 1000000);
+        checks.same("30: b if it is calm", two.chance(1, 1, 4), 600000);
         navy.stand(0, 0);
         checks.same("30: 3 of ten", navy.chance(0, 1, 3), 300000);
         checks.same("30: b else", navy.chance(1, 1, 3), 700000);

@@ -56,6 +56,11 @@ public final class GamesTest {
         checks.same("32: greens as ahead", navy.count(7), 22);
         checks.same("32: no watch", navy.count(5), 0);
         checks.same("32: one to undo", navy.count(11), 1);
+        // a is at p, which is free: a 14, b 14
+        navy.undo();
+        checks.same("32: a stands", navy.voyages(1, 1, 2), 28);
+        checks.same("32: nobody leads", navy.voyages(1, 1, 1), -1);
+        checks.same("32: one change", navy.voyages(1, 1, 0), 1);
         GreenButtons gold = Checks.launched("man a gold green 10 hands 0;man b gold green 10 hands 0;shade 5;");
         // Gold ones change by falling in alone: the first draw of 1 below 20 is looked for by hand.
         int when = 0;

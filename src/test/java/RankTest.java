@@ -47,6 +47,8 @@ public final class RankTest {
         checks.same("17: -1", navy.salutes(-1), -1);
         checks.same("17: 6", navy.salutes(6), -1);
         checks.same("16: by a shade of 1 like ones alone", ship(1, 5, 5, 6).argues(0), 2);
+        checks.same("16: the first one, too", ship(3, 9, 8).argues(1), 1);
+        checks.same("17: the first one, too", ship(3, 9, 3).salutes(1), 1);
         checks.same("17: by a shade of 1 from 2 on", ship(1, 5, 6, 7, 8).salutes(0), 12);
     }
 

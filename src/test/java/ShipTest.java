@@ -66,6 +66,7 @@ public final class ShipTest {
 
     private static void tokens(Checks checks) {
         fine(checks, "man abcdefgh plain green 1 hands 1;");
+        fine(checks, "man z plain green 1 hands 1;man azz plain green 1 hands 1;man za boy green 1 hands 1;");
         fault(checks, 1, "man ^abcdefghi plain green 1 hands 1;");
         fine(checks, "sea 0001;");
         fault(checks, 1, "sea ^00001;");
@@ -127,6 +128,7 @@ public final class ShipTest {
         fine(checks, four);
         fault(checks, 5, four + "^post e spray 1 holds 1;");
         fault(checks, 5, "sea 1 1 1 1 1 1 1 1 1 1 1 1 ^1;");
+        fault(checks, 5, "sea 1 1 1 1 1 1 1 1 1 1 1 1 ^0;");
         fault(checks, 4, "sea 1 1 1 1 1 1 1 1 1 1 1 1 ^4;");
         fault(checks, 1, "sea 1 1 1 1 1 1 1 1 1 1 1 1 ^a;");
     }
@@ -187,6 +189,8 @@ public final class ShipTest {
         law(checks, "not (0 - 1)", 0);
         law(checks, "2 and 3", 1);
         law(checks, "2 and 0", 0);
+        law(checks, "1 and 1", 1);
+        law(checks, "0 and 2", 0);
         law(checks, "0 or 7", 1);
         law(checks, "0 or 0", 0);
         law(checks, "1 or 1 and 0", 0);

@@ -24,6 +24,8 @@ public final class SuspectsTest {
         }
         checks.isNot("27: 8 there are", navy.see(0, 1, 0, true));
         checks.same("27: eight", navy.count(10), 8);
+        checks.same("28: by eight: b is not above now, is as green behind 2 and greener then", navy.sets(0), 6);
+        checks.same("29: by eight: a is above c by all, b by 4 of 6", navy.ask(0), 10);
         checks.same("27: nothing to undo", navy.count(11), 0);
     }
 
@@ -45,6 +47,11 @@ public final class SuspectsTest {
         checks.same("28: behind 2: b 22, a 18", navy.sets(0), 2);
         checks.same("28: nobody did", navy.man(0, 4), 0);
         checks.same("28: no watch", navy.count(5), 0);
+        GreenButtons later = Checks.launched(SHIP);
+        later.see(1, 0, 3, true);
+        checks.same("28: behind 3: a 23 or 19, b 24 or 20: but if b alone did", later.sets(0), 6);
+        later.see(1, 0, 1, true);
+        checks.same("28: behind 1: a 21 or 17, b 20 or 16: if a alone did", later.sets(0), 2);
         GreenButtons equal = Checks.launched("man a plain green 9 hands 0;man b plain green 9 hands 0;lemon 4;");
         equal.see(0, 1, 0, false);
         checks.same("28: as green is not greener", equal.sets(0), 3);
@@ -57,6 +64,8 @@ public final class SuspectsTest {
         checks.same("29: -1", navy.ask(-1), -1);
         checks.same("29: 21", navy.ask(21), -1);
         checks.same("29: at 20 all by the law", navy.ask(20), -1);
+        checks.same("29: at 2: a 22 or 18, b 22 or 18: 6 of 8", navy.ask(2), 1);
+        checks.same("29: at 4: a 24 or 20, b 26 or 22: nothing but b, a", navy.ask(4), 1);
         GreenButtons close = Checks.launched("man a plain green 40 hands 0;man b gold green 30 hands 0;man c gold green 28 hands 0;"
             + "man d gold green 27 hands 0;lemon 3;");
         checks.same("29: b, c: 12 of 16; b, d: 12, as 27 is not greener; c, d: 12", close.ask(0), 10);

@@ -46,6 +46,10 @@ public final class VoyageTest {
         fault(checks, 2, "below ^x;");
         fault(checks, 2, "suck ^q;");
         fault(checks, 2, "fall ^now;");
+        checks.same("3: a smaller ship", Checks.ship(navy, "man a boy green 1 hands 1;post p spray 1 holds 1;"), 0);
+        checks.same("4: the last ship's man", Checks.voyage(navy, "suck b;"), 2 + 16 * 5);
+        checks.same("4: the last ship's post", Checks.voyage(navy, "stand a q;"), 2 + 16 * 8);
+        checks.same("4: this ship's", Checks.voyage(navy, "stand a p;"), 0);
     }
 
     private static void lineLimit(Checks checks) {
