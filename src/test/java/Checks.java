@@ -1,18 +1,32 @@
 import java.nio.charset.StandardCharsets;
 import java.util.NoSuchElementException;
+import java.util.function.IntSupplier;
 
 /** What the tests share: feeding texts, telling wrong answers, the exit code. */
 final class Checks {
     static final int THROWN = Integer.MIN_VALUE;
     private int wrong = 0;
     private int made = 0;
+    private String about = "";
+
+    /** The test of one sentence of the document begins: what is wrong then is told with the promise and the sentence. */
+    void sentence(int promise, String words) {
+        about = "Promise " + promise + " ('" + words + "'): ";
+    }
 
     void same(String call, long got, long want) {
         made++;
         if (got != want) {
             wrong++;
-            System.out.println(call + " answered " + got + ", due is " + want);
+            System.out.println(about + call + " answered " + got + ", due is " + want);
         }
+    }
+
+    /** A call that is refused: it answers as told, and all stays as it was. */
+    void refused(String call, GreenButtons navy, IntSupplier made, int want) {
+        String ahead = state(navy);
+        same(call, made.getAsInt(), want);
+        is(call + " leaves all as it was", state(navy).equals(ahead));
     }
 
     void is(String call, boolean got) {
@@ -64,6 +78,36 @@ final class Checks {
             throw new IllegalArgumentException("fault " + fault + " in " + text);
         }
         return navy;
+    }
+
+    /** All that can be seen of an object by calls that change nothing. */
+    static String state(GreenButtons navy) {
+        StringBuilder all = new StringBuilder();
+        for (int what = 0; what <= 12; what++) {
+            all.append(navy.count(what)).append(' ');
+        }
+        for (int man = 0; man < navy.count(0); man++) {
+            for (int what = 0; what <= 5; what++) {
+                all.append(navy.man(man, what)).append(' ');
+            }
+        }
+        for (int post = 0; post < navy.count(1); post++) {
+            for (int what = 0; what <= 2; what++) {
+                all.append(navy.post(post, what)).append(' ');
+            }
+        }
+        for (int what = 0; what <= 2; what++) {
+            all.append(navy.judged(what)).append(' ').append(navy.sets(what)).append(' ');
+        }
+        return all.toString();
+    }
+
+    static String man(String name, String kind, int green, int hands) {
+        return "man " + name + " " + kind + " green " + green + " hands " + hands + ";";
+    }
+
+    static String post(String name, int spray, int holds) {
+        return "post " + name + " spray " + spray + " holds " + holds + ";";
     }
 
     static int rests(GreenButtons navy, int both, int gets, int loses, int what) {
