@@ -187,6 +187,22 @@ public final class BoundaryAheadTest {
                 checks.same("where " + holds + " stand, " + man, navy.stations(5, 1, man), man < holds ? 0 : -1);
             }
         }
+        GreenButtons six = Checks.launched(Checks.man("a", "gold", 9, 0) + Checks.man("b", "gold", 10, 0) + Checks.man("c", "gold", 11, 0)
+            + Checks.man("d", "gold", 12, 0) + Checks.man("e", "plain", 0, 0) + Checks.man("f", "plain", 0, 0) + Checks.post("p", 5, 1));
+        for (int man = 4; man < 6; man++) {
+            int[] ranks = {4, 2, 0};
+            for (int i = 0; i < 3; i++) {
+                checks.same("the rank of " + man + " behind " + (i + 1), six.stations(man, i + 1, -2), ranks[i]);
+            }
+            for (int one = 0; one < 6; one++) {
+                checks.same("the post of " + one + " for " + man, six.stations(man, 3, one), one == man ? 0 : -1);
+            }
+        }
+        GreenButtons last = Checks.launched(Checks.man("a", "gold", 9, 0) + Checks.man("b", "gold", 9, 0) + Checks.man("c", "gold", 9, 0)
+            + Checks.man("d", "gold", 9, 0) + Checks.man("e", "gold", 9, 0) + Checks.man("f", "gold", 0, 0) + Checks.post("p", 5, 1));
+        checks.same("the last of six", last.stations(5, 12, -2), 5);
+        checks.same("by no spray", last.stations(5, 12, -1), 0);
+        checks.same("all below", last.stations(5, 12, 0), -1);
         GreenButtons taken = Checks.launched(Checks.man("a", "plain", 0, 0) + Checks.man("b", "gold", 5, 0) + Checks.post("p", 6, 1));
         taken.stand(1, 0);
         checks.same("who stands there now does not count", taken.stations(0, 1, 0), 0);
@@ -226,6 +242,12 @@ public final class BoundaryAheadTest {
         int[] due = {0, 0, 0, 1, -1};
         for (int what = -2; what < 3; what++) {
             checks.same("dry posts ahead of below, " + what, dry.stations(0, 1, what), due[what + 2]);
+        }
+        GreenButtons hopeless = Checks.launched(Checks.man("a", "gold", 60, 0) + Checks.man("b", "cook", 0, 0) + Checks.man("c", "gold", 1, 0)
+            + Checks.post("p", 1, 1) + Checks.post("q", 0, 1) + Checks.post("r", 0, 1));
+        int[] low = {2, 0, 1, 2, -1};
+        for (int what = -2; what < 3; what++) {
+            checks.same("he stays the last, " + what, hopeless.stations(1, 12, what), low[what + 2]);
         }
         GreenButtons same = Checks.launched(Checks.man("a", "gold", 3, 0) + Checks.man("b", "plain", 0, 0) + Checks.post("p", 4, 1) + Checks.post("q", 4, 1)
             + Checks.post("r", 0, 1));
@@ -384,6 +406,11 @@ public final class BoundaryAheadTest {
         checks.same("a sea of 2, not of 3", odd(2).chance(0, 1, 10), 0);
         checks.same("nor b: they are alike", odd(2).chance(1, 1, 10), 0);
         checks.same("a sea of 0, not of 3", odd(1).chance(0, 6, 0), 0);
+        GreenButtons calm = Checks.launched("greens wet = 0;sea 3;" + Checks.man("a", "plain", 0, 0) + Checks.man("b", "gold", 0, 0) + Checks.post("p", 1, 1));
+        calm.stand(0, 0);
+        checks.same("calm is 0", calm.chance(0, 1, 0), 1000000);
+        checks.same("rough is not", calm.chance(0, 1, 10), 0);
+        checks.same("calm by 7 of ten", calm.chance(0, 1, 3), 700000);
         GreenButtons late = odd(1);
         late.watch();
         checks.same("from now on: a has 3", late.chance(0, 1, 0), 1000000);

@@ -324,6 +324,7 @@ public final class BoundaryHandsTest {
         navy.stand(0, 2);
         navy.watch();
         checks.same("spray 0", navy.man(0, 2), 6);
+        greatestFacts(checks);
         GreenButtons sweat = Checks.launched("greens sweat;" + Checks.man("a", "plain", 0, 4) + Checks.man("b", "cook", 0, 4)
             + Checks.man("c", "boy", 0, 4) + Checks.man("d", "boy", 0, 0));
         sweat.watch();
@@ -331,6 +332,55 @@ public final class BoundaryHandsTest {
         for (int man = 0; man < 4; man++) {
             checks.same("sweat of " + man, sweat.man(man, 2), sweats[man]);
         }
+    }
+
+    /** The greatest facts of one are told apart from others next to them: sweat 10, wet 27, above 5. */
+    private static void greatestFacts(Checks checks) {
+        String posts = Checks.post("p", 9, 6) + "sea 3;";
+        GreenButtons sweat = Checks.launched("greens sweat - 2;" + Checks.man("a", "boy", 0, 5) + Checks.man("b", "plain", 1, 0));
+        sweat.watch();
+        checks.same("sweat 10", sweat.man(0, 2), 8);
+        checks.same("sweat 0 next to it", sweat.man(1, 2), 1);
+        GreenButtons wet = Checks.launched("greens wet - 20;" + Checks.man("a", "plain", 0, 1) + Checks.man("b", "plain", 0, 2) + posts);
+        wet.stand(0, 0);
+        wet.watch();
+        checks.same("wet 27", wet.man(0, 2), 7);
+        checks.same("wet 0 next to it", wet.man(1, 2), 0);
+        GreenButtons above = Checks.launched("greens (above = 5) * 4 + (wet = 1) * 2;sea 1;" + Checks.man("a", "plain", 0, 0)
+            + Checks.man("b", "plain", 1, 0) + Checks.man("c", "gold", 5, 0) + Checks.man("d", "gold", 5, 0) + Checks.man("e", "gold", 5, 0)
+            + Checks.man("f", "gold", 5, 0) + Checks.post("p", 1, 1));
+        above.stand(1, 0);
+        above.watch();
+        checks.same("above 5", above.man(0, 2), 4);
+        checks.same("above 4, wet 1", above.man(1, 2), 3);
+        above.undo();
+        above.below(1);
+        for (int man = 1; man < 6; man++) {
+            above.suck(man);
+        }
+        above.stand(0, 0);
+        above.watch();
+        checks.same("above 0, wet 1, as green as he was by above 5", above.man(0, 2), 2);
+        GreenButtons fewer = Checks.launched("greens (above = 1) * 4;lemon 1;" + Checks.man("a", "plain", 0, 0) + Checks.man("b", "gold", 1, 0)
+            + Checks.post("p", 1, 1));
+        fewer.watch();
+        checks.same("above 1, wet 0", fewer.man(0, 2), 4);
+        fewer.undo();
+        fewer.suck(1);
+        fewer.stand(0, 0);
+        fewer.watch();
+        checks.same("above 0, wet 1", fewer.man(0, 2), 0);
+        GreenButtons mixed = Checks.launched("greens sweat * 3;sea 1;" + Checks.man("a", "plain", 0, 1) + Checks.man("b", "plain", 0, 0)
+            + Checks.post("p", 1, 1));
+        mixed.stand(1, 0);
+        mixed.watch();
+        checks.same("sweat 1, wet 0", mixed.man(0, 2), 3);
+        checks.same("sweat 0, wet 1", mixed.man(1, 2), 0);
+        GreenButtons next = Checks.launched("greens (above = 5) * 4;sea 1;" + Checks.man("b", "plain", 60, 0) + Checks.man("a", "plain", 0, 0)
+            + Checks.man("c", "gold", 5, 0) + Checks.man("d", "gold", 5, 0) + Checks.man("e", "gold", 5, 0) + Checks.man("f", "gold", 5, 0));
+        next.watch();
+        checks.same("above 0", next.man(0, 2), 60);
+        checks.same("above 5 behind it", next.man(1, 2), 4);
     }
 
     private static void watchesOver(Checks checks) {
@@ -439,6 +489,16 @@ public final class BoundaryHandsTest {
         navy.dock();
         navy.undo();
         checks.is("dock", Checks.state(navy).equals(ahead));
+        GreenButtons six = Checks.launched(Checks.man("a", "plain", 1, 0) + Checks.man("b", "plain", 1, 0) + Checks.man("c", "plain", 1, 0)
+            + Checks.man("d", "plain", 1, 0) + Checks.man("e", "plain", 1, 0) + Checks.man("f", "plain", 1, 0) + Checks.post("p", 1, 6));
+        for (int man = 0; man < 6; man++) {
+            six.stand(man, 0);
+        }
+        six.dock();
+        for (int man = 5; man >= 0; man--) {
+            six.undo();
+            checks.same("six, who stands there with " + man, six.post(0, 2), (2 << man) - 1);
+        }
         checks.same("a move from post to post", navy.stand(1, 0) ? 1 : 0, 1);
         navy.undo();
         checks.same("he stands where he stood", navy.man(1, 3), 1);

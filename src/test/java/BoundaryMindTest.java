@@ -24,6 +24,7 @@ public final class BoundaryMindTest {
         restsOfEachKind(checks);
         voyagesOthers(checks);
         voyagesEdges(checks);
+        voyagesHarbours(checks);
         voyagesNobody(checks);
         drawsWrap(checks);
         voyagesStandIfHeCan(checks);
@@ -33,6 +34,7 @@ public final class BoundaryMindTest {
         marksHold(checks);
         marksNothingCanBeUndone(checks);
         marksHoldFullThings(checks);
+        marksHoldEachThingSeen(checks);
         countOthers(checks);
         countBounds(checks);
         checks.end();
@@ -186,6 +188,10 @@ public final class BoundaryMindTest {
         one.see(0, 1, 0, false);
         checks.same("one set is left", one.sets(0), 1);
         checks.same("nothing parts one", one.ask(0), -1);
+        GreenButtons two = Checks.launched("greens 0;lemon 4;" + Checks.man("a", "plain", 10, 0) + Checks.man("b", "plain", 12, 0));
+        two.suck(1);
+        checks.same("nobody, or a: two sets", two.sets(0), 2);
+        checks.same("that of nobody is one", two.ask(0), 1);
         checks.same("at any watch", one.ask(20), -1);
     }
 
@@ -206,6 +212,12 @@ public final class BoundaryMindTest {
             + Checks.man("c", "gold", 3, 0) + Checks.man("d", "gold", 0, 0));
         half.see(0, 1, 0, true);
         checks.same("c, d by a half ahead of all others", half.ask(0), 16 + 3);
+        GreenButtons four = Checks.launched("greens (now < 5) * 9;lemon 6;" + Checks.man("a", "plain", 11, 0) + Checks.man("b", "plain", 10, 0)
+            + Checks.man("c", "gold", 14, 0));
+        four.suck(2);
+        checks.same("a, b by that of nobody alone, a, c by 2 of 4", four.ask(1), 2);
+        GreenButtons both = Checks.launched("greens (now < 9) * 3;lemon 2;" + Checks.man("a", "plain", 10, 0) + Checks.man("b", "plain", 12, 0));
+        checks.same("a, b by that of both alone, b, a by 2 of 4", both.ask(1), 8);
         GreenButtons last = Checks.launched("greens 0;lemon 1;" + Checks.man("a", "plain", 60, 0) + Checks.man("b", "plain", 50, 0)
             + Checks.man("c", "plain", 40, 0) + Checks.man("d", "plain", 30, 0) + Checks.man("e", "plain", 10, 0) + Checks.man("f", "plain", 11, 0));
         checks.same("the last pair", last.ask(0), 40 + 4);
@@ -337,6 +349,36 @@ public final class BoundaryMindTest {
                         checks.same(men + " men, voyages(" + seed + ", " + watches + ", " + what + ")", navy.voyages(seed, watches, what), due[what]);
                     }
                 }
+            }
+        }
+    }
+
+    /** One man of a green of 60, by no law: a harbour takes 1 off, a fall gives 1. */
+    private static void voyagesHarbours(Checks checks) {
+        checks.sentence(32, "a DRAW below 20: 0: all DOCK, 1: that MAN FALLS in");
+        GreenButtons navy = Checks.launched("greens 0;shade 1;harbour 1;" + Checks.man("a", "plain", 60, 0) + Checks.man("b", "gold", 0, 0));
+        GreenButtons posts = Checks.launched("greens wet;sea 1;harbour 0;shade 1;" + Checks.man("a", "plain", 0, 0) + Checks.post("p", 1, 1));
+        for (int seed : new int[] {0, 3, 9999}) {
+            BigInteger g = BigInteger.valueOf(seed);
+            int[] green = {60, 0};
+            boolean stands = false;
+            int wet = 0;
+            for (int watch = 1; watch <= 40; watch++) {
+                int[] draws = new int[3];
+                for (int i = 0; i < 3; i++) {
+                    g = g.multiply(BigInteger.valueOf(1103515245)).add(BigInteger.valueOf(12345)).mod(BigInteger.valueOf(2147483648L));
+                    draws[i] = g.divide(BigInteger.valueOf(65536)).intValueExact();
+                }
+                int mishap = draws[2] % 20;
+                if (mishap == 0) {
+                    green[0] = Math.max(0, green[0] - 1);
+                } else if (mishap == 1) {
+                    green[draws[0] % 2] = Math.min(99, Math.max(green[0], green[1]) + 1);
+                }
+                checks.same("voyages(" + seed + ", " + watch + ", 2)", navy.voyages(seed, watch, 2), green[0] + green[1]);
+                stands = draws[1] % 2 == 0 && mishap != 0;
+                wet = Math.min(99, wet + (mishap == 1 ? 1 : 0) + (stands ? 1 : 0));
+                checks.same("at a post, voyages(" + seed + ", " + watch + ", 2)", posts.voyages(seed, watch, 2), wet);
             }
         }
     }
@@ -526,6 +568,29 @@ public final class BoundaryMindTest {
         checks.same("eight are seen", navy.count(10), 8);
         checks.same("the same sets", navy.sets(0), sets);
         checks.isNot("no room", navy.see(0, 1, 0, true));
+    }
+
+    /** Each thing SEEN parts the sets in another way, so a mark that mixed up one part of it would answer otherwise. */
+    private static void marksHoldEachThingSeen(Checks checks) {
+        checks.sentence(33, "MARKS hold what is SEEN");
+        String ship = "greens sweat;lemon 4;" + Checks.man("a", "plain", 20, 1) + Checks.man("b", "plain", 19, 2) + Checks.man("c", "plain", 17, 0);
+        int[][] seen = {{0, 1, 0, 1}, {1, 0, 0, 1}, {2, 0, 0, 1}, {0, 2, 0, 1}, {0, 2, 0, 0}, {1, 0, 3, 1}, {1, 0, 3, 0}, {2, 1, 0, 1}, {1, 2, 6, 0}};
+        for (int[] held : seen) {
+            for (int[] other : seen) {
+                GreenButtons alone = Checks.launched(ship);
+                alone.see(held[0], held[1], held[2], held[3] == 1);
+                GreenButtons navy = Checks.launched(ship);
+                navy.mark(1, false);
+                navy.see(held[0], held[1], held[2], held[3] == 1);
+                navy.mark(0, false);
+                navy.mark(1, true);
+                navy.see(other[0], other[1], other[2], other[3] == 1);
+                navy.mark(0, true);
+                for (int what = 0; what < 3; what++) {
+                    checks.same("sets(" + what + ")", navy.sets(what), alone.sets(what));
+                }
+            }
+        }
     }
 
     private static void countOthers(Checks checks) {

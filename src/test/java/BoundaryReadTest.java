@@ -41,6 +41,7 @@ public final class BoundaryReadTest {
         theLeastKind(checks);
         allStaysByAFault(checks);
         shipFromThenOn(checks);
+        lawFromThenOn(checks);
         voyageNames(checks);
         fortyLines(checks);
         voyageStaysByAFault(checks);
@@ -177,6 +178,7 @@ public final class BoundaryReadTest {
         fault(checks, 1, "man ^zzzzzzzzzzzzzzzzzzzzzzzzzzzzzzzzzzzzzzzz plain green 1 hands 1;");
         fault(checks, 1, "^shadeshade 1;");
         fault(checks, 1, "man a^`");
+        fault(checks, 1, "man a^{ plain");
         fault(checks, 1, "man ^{");
         fault(checks, 1, "man ^A plain");
         fault(checks, 1, "man a^Z plain");
@@ -196,6 +198,8 @@ public final class BoundaryReadTest {
         fine(checks, "greens 9999;");
         fault(checks, 1, "greens ^10000;");
         fault(checks, 1, "shade ^/;");
+        fault(checks, 1, "shade 1^/;");
+        fault(checks, 1, "shade ^:;");
         fault(checks, 1, "shade 1^:");
         fault(checks, 1, "shade ^-1;");
         fault(checks, 1, "shade ^+1;");
@@ -305,6 +309,15 @@ public final class BoundaryReadTest {
         range(checks, "man a plain green ", 0, 60, " hands 1;");
         range(checks, "man a plain green 1 hands ", 0, 5, ";");
         GreenButtons navy = Checks.launched(Checks.man("a", "boy", 60, 5) + Checks.man("b", "boy", 0, 0));
+        GreenButtons six = Checks.launched(Checks.man("a", "plain", 60, 5) + Checks.man("b", "cook", 50, 4) + Checks.man("c", "boy", 40, 3)
+            + Checks.man("d", "gold", 30, 2) + Checks.man("e", "cook", 20, 1) + Checks.man("f", "boy", 10, 5));
+        int[] hands = {5, 4, 3, 2, 1, 5};
+        int[] kinds = {0, 1, 2, 3, 1, 2};
+        for (int man = 0; man < 6; man++) {
+            checks.same("six, kind of " + man, six.man(man, 0), kinds[man]);
+            checks.same("six, hands of " + man, six.man(man, 1), hands[man]);
+            checks.same("six, green of " + man, six.man(man, 2), 60 - 10 * man);
+        }
         checks.same("green 60", navy.man(0, 2), 60);
         checks.same("hands 5 of a boy, as told", navy.man(0, 1), 5);
         checks.same("green 0", navy.man(1, 2), 0);
@@ -431,6 +444,9 @@ public final class BoundaryReadTest {
         }
         fault(checks, 3, "man abcdefgh plain green 1 hands 1;post ^abcdefgh spray");
         fine(checks, man + "man xx plain green 1 hands 1;man y plain green 1 hands 1;");
+        fine(checks, "man a plain green 1 hands 1;man aa plain green 1 hands 1;man aaa plain green 1 hands 1;man aaaaaaaa plain green 1 hands 1;"
+            + "man z plain green 1 hands 1;man az plain green 1 hands 1;post b spray 1 holds 1;post ab spray 1 holds 1;post ba spray 1 holds 1;"
+            + "post zzzzzzzz spray 1 holds 1;");
         GreenButtons navy = Checks.launched(man);
         checks.same("the last ship's names are free", Checks.ship(navy, man), 0);
         checks.same("a fault behind a name", Checks.ship(navy, "man y plain green 61"), 4 + 16 * 18);
@@ -465,6 +481,9 @@ public final class BoundaryReadTest {
         fault(checks, 5, "greens ((((1 + (^2)))));");
         fault(checks, 5, "greens ((((1)))) * not not not not not ^2;");
         fine(checks, "greens not not not (1) + not not not (1);");
+        String four = "0 or 1 < 2 - 1 * (".repeat(4);
+        rises(checks, four + "0 or 1 < 2 - 1 * 0))))", 1);
+        rises(checks, four + "0 or 1 < 2 - 1 * 1))))", 0);
     }
 
     private static void testsOnce(Checks checks) {
@@ -532,6 +551,11 @@ public final class BoundaryReadTest {
         rises(checks, "3 = 3", 1);
         rises(checks, "3 = 2", 0);
         rises(checks, "1 or 1 and 0", 0);
+        rises(checks, "not 5 + 3", 3);
+        rises(checks, "(5 and 0) + 3", 3);
+        rises(checks, "(0 or 0) + 3", 3);
+        rises(checks, "(3 < 3) + 3", 3);
+        rises(checks, "(3 = 4) + 3", 3);
     }
 
     private static void endIsAToken(Checks checks) {
@@ -639,6 +663,26 @@ public final class BoundaryReadTest {
         Checks.ship(navy, Checks.man("a", "boy", 10, 2));
         navy.watch();
         checks.same("without greens: wet + sweat", navy.man(0, 2), 14);
+    }
+
+    private static void lawFromThenOn(Checks checks) {
+        checks.sentence(3, "Without a FAULT a SHIP is the SHIP from then on (its greens, too)");
+        GreenButtons navy = new GreenButtons();
+        for (int i = 0; i < 30; i++) {
+            int rise = i % 9 + 1;
+            checks.same("ship " + i, Checks.ship(navy, Checks.man("a", "plain", 0, 0) + Checks.man("b", "boy", 9, 5) + "greens " + rise + ";"), 0);
+            navy.watch();
+            checks.same("green by the law of ship " + i, navy.man(0, 2), rise);
+            checks.same("green of b by the law of ship " + i, navy.man(1, 2), 9 + rise);
+        }
+        for (int rise = 1; rise < 9; rise++) {
+            Checks.ship(navy, Checks.man("a", "plain", 0, 0) + "greens 0" + "+0".repeat(220) + "+1".repeat(rise) + ";");
+            navy.watch();
+            checks.same("long laws, one behind another", navy.man(0, 2), rise);
+        }
+        Checks.ship(navy, Checks.man("a", "plain", 0, 4));
+        navy.watch();
+        checks.same("without greens again", navy.man(0, 2), 4);
     }
 
     private static void voyageNames(Checks checks) {
