@@ -203,6 +203,10 @@ public final class BoundaryAheadTest {
         checks.same("the last of six", last.stations(5, 12, -2), 5);
         checks.same("by no spray", last.stations(5, 12, -1), 0);
         checks.same("all below", last.stations(5, 12, 0), -1);
+        GreenButtons smaller = Checks.launched(Checks.post("p", 0, 6) + Checks.post("q", 0, 6) + Checks.post("r", 0, 6) + Checks.post("s", 0, 6));
+        Checks.ship(smaller, Checks.man("a", "plain", 0, 0) + Checks.man("b", "gold", 5, 0) + Checks.post("p", 1, 1));
+        checks.same("the last ship's posts hold nobody: the rank", smaller.stations(0, 1, -2), 1);
+        checks.same("the last ship's posts hold nobody", smaller.stations(0, 1, 0), -1);
         GreenButtons taken = Checks.launched(Checks.man("a", "plain", 0, 0) + Checks.man("b", "gold", 5, 0) + Checks.post("p", 6, 1));
         taken.stand(1, 0);
         checks.same("who stands there now does not count", taken.stations(0, 1, 0), 0);

@@ -683,6 +683,17 @@ public final class BoundaryReadTest {
         Checks.ship(navy, Checks.man("a", "plain", 0, 4));
         navy.watch();
         checks.same("without greens again", navy.man(0, 2), 4);
+        GreenButtons seas = Checks.launched("sea 0 3 3 3 3 3 3 3 3 3 3 3;");
+        Checks.ship(seas, Checks.man("a", "plain", 0, 0));
+        for (int watch = 0; watch < 13; watch++) {
+            checks.same("without a sea again, at " + watch, seas.count(6), 1);
+            seas.watch();
+        }
+        Checks.ship(seas, "sea 2;");
+        for (int watch = 0; watch < 13; watch++) {
+            checks.same("a shorter sea, at " + watch, seas.count(6), 2);
+            seas.watch();
+        }
     }
 
     private static void voyageNames(Checks checks) {
