@@ -32,7 +32,6 @@ public final class GreenButtons {
     private final Forecast forecast;
     private final Stations deals;
     private final Suspects suspects;
-    private final Draws draws;
     private final Crew[] past;
     private final Log[] marks;
     private int pastNext;
@@ -48,7 +47,6 @@ public final class GreenButtons {
         forecast = new Forecast(ship, log.crew, trial);
         deals = new Stations(ship, log.crew, trial);
         suspects = new Suspects(ship, log, trial);
-        draws = new Draws(ship, log.crew, trial);
         past = new Crew[MOST_UNDONE];
         for (int i = 0; i < MOST_UNDONE; i++) {
             past[i] = new Crew(ship);
@@ -268,7 +266,7 @@ public final class GreenButtons {
 
     public int voyages(int seed, int watches, int what) {
         boolean asked = isWithin(seed, 0, LAST_SEED) && isWithin(watches, 1, LONGEST_VOYAGE) && isWithin(what, 0, 2);
-        return asked ? draws.sail(seed, watches, what) : NO_SUCH;
+        return asked ? forecast.sail(seed, watches, what) : NO_SUCH;
     }
 
     public boolean mark(int mark, boolean back) {
@@ -1403,7 +1401,7 @@ public final class GreenButtons {
         }
     }
 
-    /** What comes when watches, lemons or harbours follow now and nothing else is done. */
+    /** What comes when watches, lemons, harbours or voyages by DRAWS follow now. */
     private static final class Forecast {
         private static final int MOST_HARBOURS = 50;
         private static final int MILLION = 1000000;
@@ -1412,6 +1410,7 @@ public final class GreenButtons {
         private final Ship ship;
         private final Crew now;
         private final Crew trial;
+        private long seed;
 
         Forecast(Ship ship, Crew now, Crew trial) {
             this.ship = ship;
@@ -1515,6 +1514,48 @@ public final class GreenButtons {
             }
             return sum;
         }
+
+        int sail(int firstSeed, int watches, int what) {
+            seed = firstSeed;
+            trial.copyFrom(now);
+            int turns = 0;
+            int leader = trial.leader();
+            for (int gone = 0; gone < watches; gone++) {
+                if (ship.men > 0) {
+                    order();
+                }
+                trial.passWatch(trial.seaNow());
+                if (trial.leader() != leader) {
+                    turns++;
+                }
+                leader = trial.leader();
+            }
+            if (what == 0) {
+                return turns;
+            }
+            return what == 1 ? leader : trial.allGreens();
+        }
+
+        private void order() {
+            int man = drawUnder(ship.men);
+            int post = drawUnder(ship.posts + 1);
+            if (post < ship.posts) {
+                trial.standAt(man, post);
+            } else {
+                trial.goBelow(man);
+            }
+            int mishap = drawUnder(20);
+            if (mishap == 0) {
+                trial.enterHarbour();
+            } else if (mishap == 1) {
+                trial.fallIn(man);
+            }
+        }
+
+        private int drawUnder(int limit) {
+            seed = (seed * 1103515245L + 12345L) % 2147483648L;
+            return limit > 0 ? (int) (seed / 65536L % limit) : 0;
+        }
     }
 
     /** Where all should stand so that one is as high as can be. */
@@ -1578,62 +1619,6 @@ public final class GreenButtons {
                 bestSpray = spray;
                 System.arraycopy(row, 0, bestRow, 0, MOST_MEN);
             }
-        }
-    }
-
-    /** Voyages by DRAWS. */
-    private static final class Draws {
-        private final Ship ship;
-        private final Crew now;
-        private final Crew trial;
-        private long seed;
-
-        Draws(Ship ship, Crew now, Crew trial) {
-            this.ship = ship;
-            this.now = now;
-            this.trial = trial;
-        }
-
-        int sail(int firstSeed, int watches, int what) {
-            seed = firstSeed;
-            trial.copyFrom(now);
-            int turns = 0;
-            int leader = trial.leader();
-            for (int gone = 0; gone < watches; gone++) {
-                if (ship.men > 0) {
-                    order();
-                }
-                trial.passWatch(trial.seaNow());
-                if (trial.leader() != leader) {
-                    turns++;
-                }
-                leader = trial.leader();
-            }
-            if (what == 0) {
-                return turns;
-            }
-            return what == 1 ? leader : trial.allGreens();
-        }
-
-        private void order() {
-            int man = drawUnder(ship.men);
-            int post = drawUnder(ship.posts + 1);
-            if (post < ship.posts) {
-                trial.standAt(man, post);
-            } else {
-                trial.goBelow(man);
-            }
-            int mishap = drawUnder(20);
-            if (mishap == 0) {
-                trial.enterHarbour();
-            } else if (mishap == 1) {
-                trial.fallIn(man);
-            }
-        }
-
-        private int drawUnder(int limit) {
-            seed = (seed * 1103515245L + 12345L) % 2147483648L;
-            return limit > 0 ? (int) (seed / 65536L % limit) : 0;
         }
     }
 }

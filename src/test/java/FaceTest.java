@@ -50,7 +50,7 @@ public final class FaceTest {
                 checks.is("parameters of " + method.getName(), method.getParameterCount() <= 7);
             }
         }
-        checks.is("some twelve classes", face.getDeclaredClasses().length <= 12);
+        checks.is("twelve classes in the file, the public one too", face.getDeclaredClasses().length + 1 <= 12);
         checks.end();
     }
 
