@@ -14,6 +14,8 @@ public final class BoundaryReadTest {
         bytesHighestFirst(checks);
         otherBytesAreLeftOut(checks);
         beyondThousandIsLeftOut(checks);
+        wordsAtTheEndOfAFullTape(checks);
+        signsOfAnEarlierTapeAreGone(checks);
         whatReadsTheTapeTakesIt(checks);
         wordsOfEightLetters(checks);
         numbersOfFourDigits(checks);
@@ -148,6 +150,68 @@ public final class BoundaryReadTest {
         }
         longest.append(longest.length() == 998 ? " ;" : ";");
         fine(checks, longest.toString());
+    }
+
+    /** Behind the 1,000th sign there is none: no reader may look there for the rest of a word or a number. */
+    private static void wordsAtTheEndOfAFullTape(Checks checks) {
+        checks.sentence(3, "The TAPE has at most 1,000 signs; the end being one at the text's length");
+        for (String word : (RESERVED + " now sweat wet above").split(" ")) {
+            for (int length = 1; length <= word.length(); length++) {
+                String start = word.substring(0, length);
+                lastOfFullTape(checks, "", start, "man post sea shade lemon harbour greens");
+                lastOfFullTape(checks, "man a", start, "plain cook boy gold");
+                lastOfFullTape(checks, "man a plain", start, "green");
+                lastOfFullTape(checks, "man a plain green 1", start, "hands");
+                lastOfFullTape(checks, "post p", start, "spray");
+                lastOfFullTape(checks, "post p spray 1", start, "holds");
+                lastOfFullTape(checks, "greens", start, "now sweat wet above not");
+                lastOfFullTape(checks, "greens 1", start, "and or");
+                boolean verb = isOneOf(start, "stand below suck fall watch dock");
+                int due = 1 + 16 * (verb ? 1000 : 1000 - length);
+                checks.same("voyage: .. " + start, Checks.voyage(new GreenButtons(), " ".repeat(1000 - length) + start), due);
+            }
+        }
+        for (int length = 1; length <= 9; length++) {
+            int name = 1 + 16 * (length <= 8 ? 1000 : 1000 - length);
+            checks.same("a name of " + length, Checks.ship(new GreenButtons(), full("man", "z".repeat(length))), name);
+            int number = 1 + 16 * (length <= 4 ? 1000 : 1000 - length);
+            checks.same("a number of " + length, Checks.ship(new GreenButtons(), full("greens", "1".repeat(length))), number);
+        }
+        for (char sign : "()<=+-*;".toCharArray()) {
+            int due = 1 + 16 * (sign == '(' ? 1000 : 999);
+            checks.same("greens .. " + sign, Checks.ship(new GreenButtons(), full("greens", "" + sign)), due);
+        }
+    }
+
+    /** The last token can stand there if it is one of these: then it is the end that can't. */
+    private static void lastOfFullTape(Checks checks, String head, String last, String these) {
+        int due = 1 + 16 * (isOneOf(last, these) ? 1000 : 1000 - last.length());
+        checks.same("ship: " + head + " .. " + last, Checks.ship(new GreenButtons(), full(head, last)), due);
+    }
+
+    private static String full(String head, String last) {
+        return head + " ".repeat(1000 - head.length() - last.length()) + last;
+    }
+
+    private static boolean isOneOf(String word, String these) {
+        return (" " + these + " ").contains(" " + word + " ");
+    }
+
+    private static void signsOfAnEarlierTapeAreGone(Checks checks) {
+        checks.sentence(3, "what reads it takes it: it is empty then");
+        GreenButtons navy = new GreenButtons();
+        checks.same("whole", Checks.ship(navy, "greens 12;shade 8;"), 0);
+        checks.same("gree, an n was behind it", Checks.ship(navy, "gree"), 1);
+        checks.same("green, an s was behind it", Checks.ship(navy, "green"), 1);
+        checks.same("greens, a number was behind it", Checks.ship(navy, "greens"), 1 + 16 * 6);
+        checks.same("again whole", Checks.ship(navy, "greens 12;shade 8;"), 0);
+        checks.same("greens 1, a ; was behind it", Checks.ship(navy, "greens 01"), 1 + 16 * 9);
+        checks.same("once more whole", Checks.ship(navy, "shade 12;"), 4 + 16 * 6);
+        checks.same("a 1 without its 2", Checks.ship(navy, "shade 1"), 1 + 16 * 7);
+        checks.same("a voyage", Checks.voyage(navy, "watch;dock;"), 0);
+        checks.same("wat, a c was behind it", Checks.voyage(navy, "wat"), 1);
+        checks.same("watch, a ; was behind it", Checks.voyage(navy, "watch"), 1 + 16 * 5);
+        checks.same("the voyage stays", navy.count(9), 2);
     }
 
     private static void whatReadsTheTapeTakesIt(Checks checks) {
